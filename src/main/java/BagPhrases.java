@@ -1086,11 +1086,8 @@ public final class BagPhrases {
             }
         }
 
-        /** Sets nothing at all at each place, the empty bag among them. */
+        /** Leaves no way at any place, but for the empty bag. */
         void empty(Way way, long[] tails) {
-            for (int tail = 0; tail < KINDS; tail++) {
-                tails[tail] = way.none();
-            }
             for (int i = 0; i < orderSize; i++) {
                 for (int kind = 0; kind < KINDS && order[i] < MOST_COUNTED; kind++) {
                     tails[order[i] * KINDS + kind] = way.none();
@@ -1227,20 +1224,26 @@ public final class BagPhrases {
             }
             lattice.empty(counting, spare);
             lattice.ground(counting, spare);
-            lattice.empty(counting, other);
             long rest = total;
             for (int size = 1; size <= MOST_ROW; size++) {
                 byWords[size] = 0L;
                 if (rest > 0) {
                     byWords[size] = lattice.fold(counting, ALL_WORDS, spare, other);
                     rest -= byWords[size];
+                    endNowhere(other);
                     long[] last = spare;
                     spare = other;
                     other = last;
-                    lattice.empty(counting, other);
                 }
             }
             lengthsKnown = true;
+        }
+
+        /** Of one word or more no phrase is at the empty bag already. */
+        private static void endNowhere(long[] tails) {
+            for (int kind = 0; kind < KINDS; kind++) {
+                tails[kind] = 0L;
+            }
         }
 
         int fewestWords() {
