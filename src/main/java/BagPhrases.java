@@ -29,7 +29,6 @@ public final class BagPhrases {
     private static final int SEED_SHIFT = 33;
 
     private static final int DOING = 10000;
-    private static final long[] DOING_PLACES = {1L, 10000L, 100000000L, 1000000000000L, 10000000000000000L};
 
     private final Reader text = new Reader();
     private final Lexicon words = new Lexicon();
@@ -40,7 +39,8 @@ public final class BagPhrases {
     private final Doings doings = new Doings();
     private final Phrases phrases = new Phrases(words, now);
     private final Chances chances = new Chances(words, now, phrases);
-    private final int[] row = new int[MOST_ROW];
+    private final int[] rowWords = new int[MOST_ROW];
+    private final int[] judged = new int[MOST_JUDGED];
     private final int[] reason = new int[4];
     private final int[] remains = new int[LETTERS];
     private final int[] seen = new int[MOST_SEEN * SEEN_PARTS];
@@ -257,7 +257,7 @@ public final class BagPhrases {
         if (rowSize >= MOST_ROW) {
             return FULL;
         }
-        row[rowSize] = word;
+        rowWords[rowSize] = word;
         rowSize++;
         return rowSize;
     }
@@ -278,7 +278,7 @@ public final class BagPhrases {
 
     public long number() {
         examineRow();
-        return reason[0] == IS_PHRASE ? phrases.numberOf(row, rowSize) : NONE;
+        return reason[0] == IS_PHRASE ? phrases.numberOf(rowWords, rowSize) : NONE;
     }
 
     public int nearly(int what) {
@@ -290,20 +290,25 @@ public final class BagPhrases {
     }
 
     public int judge(int n, long row) {
-        if (n < 1 || n > MOST_JUDGED || row < 0 || row >= DOING_PLACES[n]) {
+        if (n < 1 || n > MOST_JUDGED || row < 0) {
+            return BAD;
+        }
+        long rest = row;
+        for (int i = n - 1; i >= 0; i--) {
+            judged[i] = (int) (rest % DOING);
+            rest /= DOING;
+        }
+        if (rest != 0) {
             return BAD;
         }
         spare.copy(now);
-        int place = NONE;
-        for (int i = 0; i < n && place == NONE; i++) {
-            long figures = row / DOING_PLACES[n - 1 - i] % DOING;
-            if (!comesTrue((int) figures)) {
-                place = i;
-            }
+        int place = 0;
+        while (place < n && comesTrue(judged[place])) {
+            place++;
         }
         now.copy(spare);
         outdate();
-        return place;
+        return place < n ? place : NONE;
     }
 
     // ---- seen
@@ -482,13 +487,13 @@ public final class BagPhrases {
             if (!passesAt(place, let)) {
                 return;
             }
-            let = now.follow[words.kinds[row[place]]];
+            let = now.follow[words.kinds[rowWords[place]]];
         }
         examineEnd();
     }
 
     private boolean passesAt(int place, int let) {
-        int word = row[place];
+        int word = rowWords[place];
         if ((now.barred >> word & 1) != 0) {
             explain(IS_BARRED, place, NONE, 0);
             return false;
@@ -518,7 +523,7 @@ public final class BagPhrases {
                 return;
             }
         }
-        int kind = words.kinds[row[rowSize - 1]];
+        int kind = words.kinds[rowWords[rowSize - 1]];
         if ((now.end >> kind & 1) == 0) {
             explain(MAY_NOT_END, rowSize, NONE, 0);
         }
@@ -1480,7 +1485,7 @@ public final class BagPhrases {
             return bits;
         }
 
-        /** In how many phrases more all orders together have, when the word has come. */
+        /** How many phrases more there are when the word has come, of all orders together. */
         long shareOf(int word) {
             countSets();
             int bit = 0;

@@ -191,7 +191,13 @@ public final class AgainstNaiveTest {
         }
         long row = Long.parseLong(figures.toString());
         row = chance.nextInt(30) == 0 ? -row : row;
-        check.same("judge(" + n + ", " + row + ")", other.judge(n, row), one.judge(n, row));
+        other.cutShort = false;
+        int due = other.judge(n, row);
+        int got = one.judge(n, row);
+        // letters put in may have made more phrases than are listed
+        if (!other.cutShort) {
+            check.same("judge(" + n + ", " + row + ")", due, got);
+        }
         return 1;
     }
 

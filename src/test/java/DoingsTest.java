@@ -11,6 +11,8 @@ public final class DoingsTest {
         allowing();
         undoing();
         forgetting();
+        forgettingOfAllSorts();
+        counted();
         keeping();
         goingOn();
         CHECK.end();
@@ -161,6 +163,71 @@ public final class DoingsTest {
         }
         CHECK.same("word(0, 2): two were forgotten", 2, x.word(0, 2));
         CHECK.same("undo()", -3, x.undo());
+    }
+
+    /** Doings of each sort, so that each must move down in the row with what it was. */
+    private static void forgettingOfAllSorts() {
+        CHECK.part("promise 14, a full row of all sorts");
+        BagPhrases x = Check.house(HOUSE);
+        x.put(4);
+        x.put(5);
+        x.take(0);
+        x.bar(0);
+        x.rank(1, 6);
+        x.allow(0, 2, 1);
+        x.allow(1, 1, 2);
+        x.allow(2, 3, 1);
+        x.rank(1, 7);
+        x.bar(2);
+        x.take(1);
+        x.put(6);
+        x.allow(2, 0, 1);
+        x.rank(2, 0);
+        x.put(7);
+        x.bar(0);
+        for (int left = 13; left >= 0; left--) {
+            CHECK.same("undo()", left, x.undo());
+        }
+        bag(x, 1, 1, 1, 0, 1, 1);
+        CHECK.same("about(3)", 0, x.about(3));
+        CHECK.same("about(4)", 1, x.about(4));
+        CHECK.same("about(5)", 4, x.about(5));
+        CHECK.same("letter(0, 2)", 2, x.letter(0, 2));
+        CHECK.same("letter(3, 2)", 0, x.letter(3, 2));
+        CHECK.same("word(1, 2)", 2, x.word(1, 2));
+        CHECK.same("word(2, 2)", 3, x.word(2, 2));
+    }
+
+    /** What is told of phrases is never that of an earlier state. */
+    private static void counted() {
+        CHECK.part("phrases behind each doing");
+        BagPhrases x = Check.house("waA1waA2+a^A.A:AA");
+        CHECK.same("many(0)", 2, x.many(0));
+        CHECK.same("best(0)", 2, x.best(0));
+        x.keep(0);
+        x.put(0);
+        CHECK.same("many(0) behind put", 4, x.many(0));
+        x.bar(0);
+        CHECK.same("many(0) behind bar", 1, x.many(0));
+        x.undo();
+        CHECK.same("many(0) behind undo", 4, x.many(0));
+        x.rank(0, 9);
+        CHECK.same("best(0) behind rank", 18, x.best(0));
+        x.allow(2, 0, 0);
+        CHECK.same("many(0) behind allow", 0, x.many(0));
+        x.again(0);
+        CHECK.same("many(0) behind again", 2, x.many(0));
+        CHECK.same("hope(5, true) behind again", 3, x.hope(5, true));
+        x.take(0);
+        CHECK.same("hope(5, true) behind take", 0, x.hope(5, true));
+        CHECK.same("many(0) behind take", 0, x.many(0));
+        Check.write(x, "waaA4+a+a^A.A");
+        x.house();
+        CHECK.same("many(0) behind house", 1, x.many(0));
+        CHECK.same("share(0, true) behind house", 1, x.share(0, true));
+        CHECK.same("best(0) behind house", 4, x.best(0));
+        CHECK.same("nearly(0)", 0, x.nearly(0));
+        CHECK.same("many(1) behind nearly", 1, x.many(1));
     }
 
     private static void keeping() {

@@ -147,6 +147,10 @@ public final class HouseTest {
             }
         }
         fault(pairs.toString(), -9);
+        fault(pairs.substring(3) + ":", 46);
+        fault(pairs.substring(3) + ":A", 47);
+        fault(pairs.substring(3) + ":B", 46);
+        fault(pairs.substring(0, 45) + ":D", 47);
         fault(pairs + ":", 48);
         fault(times("wabcdefA0", 10) + times("+h", 12) + "^A^B^C^D.A.B.C.D" + pairs, -9);
     }

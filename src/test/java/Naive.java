@@ -58,6 +58,8 @@ final class Naive {
     private List<Integer> row = new ArrayList<>();
     private final List<int[]> seen = new ArrayList<>();
     private long seed = 0;
+    /** Whether a list was cut short since this was last set back: then what was told may be wrong. */
+    boolean cutShort = false;
     private String listedState = "";
     private List<List<Integer>> listed = new ArrayList<>();
 
@@ -411,6 +413,7 @@ final class Naive {
 
     private void list(String bag, List<Integer> ahead, List<List<Integer>> all) {
         if (all.size() > TOO_MANY_TO_LIST) {
+            cutShort = true;
             return;
         }
         if (bag.isEmpty()) {

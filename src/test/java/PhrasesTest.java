@@ -195,6 +195,9 @@ public final class PhrasesTest {
         x.take(1);
         x.bar(1);
         reason(x, 3, 0, 1, 1);
+        x = Check.house("wbA0".repeat(9) + "wabcdefA0+a+b+c+d+e+f^A.A");
+        Check.tell(x, 9);
+        reason(x, 0, -9, -9, 0);
         BagPhrases none = new BagPhrases();
         reason(none, 6, 0, -9, 0);
         none.put(3);
