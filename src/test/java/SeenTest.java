@@ -75,6 +75,11 @@ public final class SeenTest {
         seen(3, 0, 1, 3, 1);
         seen(3, 0, 0, 2, 0);
         seen(3, 10, 0, 5, 0);
+        // 0 0 1, then 0 2: the last word of the longer one is not in the shorter one
+        x = Check.house("waA0wbC0wabB0+a+a+b^A.B.C:AA:AB:AC");
+        CHECK.same("many(0)", 2, x.many(0));
+        x.see(0, 1, 1);
+        CHECK.same("left(0), a shorter one behind a longer one", 1, x.left(0));
         x = new BagPhrases();
         CHECK.same("left(0) of none", 0, x.left(0));
         CHECK.same("left(1) of none", -9, x.left(1));
