@@ -29,6 +29,7 @@ public final class BoundsOfChancesTest {
         shareOfEight();
         shareUnknownFirst();
         shareInLeastTerms();
+        shareByOrders();
         shareIsOnlyAsked();
         hopeBounds();
         hopeOfEight();
@@ -352,6 +353,26 @@ public final class BoundsOfChancesTest {
         share(x, 0, 1, 1);
         share(x, 1, 1, 1);
         share(x, 2, 0, 1);
+    }
+
+    private static void shareByOrders() {
+        CHECK.sentence(28, "in each order as likely: by how many PHRASES there are more in the mean when it has come");
+        // 0 0 1, 0 1 0, 0 2, 1 0 0, 2 0: a phrase is shared evenly by the unlike words in it
+        BagPhrases x = Check.house("waA2wbA3wabB9wccC0+a+b+a^A^B.A.B:AA:AB:BA");
+        share(x, 0, 5, 2);
+        share(x, 1, 3, 2);
+        share(x, 2, 1, 1);
+        share(x, 3, 0, 1);
+        // abc by itself, and a, b, c in each order
+        x = Check.house("wabcA0waA0wbA0wcA0wabA0+a+b+c^A.A:AA");
+        // ab c, c ab too
+        share(x, 0, 1, 1);
+        share(x, 1, 2, 1);
+        share(x, 3, 3, 1);
+        share(x, 4, 1, 1);
+        x.bar(3);
+        share(x, 0, 1, 1);
+        share(x, 1, 0, 1);
     }
 
     private static void shareIsOnlyAsked() {

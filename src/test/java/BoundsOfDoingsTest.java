@@ -32,6 +32,7 @@ public final class BoundsOfDoingsTest {
         roomBehindUndo();
         refusedIsNoDoing();
         undoneBagNeverBeyond();
+        phrasesBehindEachDoing();
         keepBounds();
         keepIsOverwritten();
         slotsApart();
@@ -41,6 +42,7 @@ public final class BoundsOfDoingsTest {
         againAsKept();
         againNoDoings();
         againLeavesTheRest();
+        phrasesAsKept();
         CHECK.covered(9, 14);
         CHECK.covered(32, 33);
         CHECK.end();
@@ -455,6 +457,49 @@ public final class BoundsOfDoingsTest {
         CHECK.same("put(0)", FULL, x.put(0));
     }
 
+    /** Asked ahead of each doing too, so that an answer of an earlier state would show. */
+    private static void phrases(BagPhrases x, String when, long many, int best, int shareAbove) {
+        CHECK.same("many(0) " + when, many, x.many(0));
+        CHECK.same("many(2) " + when, many, x.many(2));
+        CHECK.same("best(0) " + when, best, x.best(0));
+        CHECK.same("about(8) " + when, many > 0 ? 2 : -9, x.about(8));
+        CHECK.same("share(0, true) " + when, shareAbove, x.share(0, true));
+        CHECK.same("hope(0, true) " + when, many > 0 ? 1 : 0, x.hope(0, true));
+    }
+
+    private static void phrasesBehindEachDoing() {
+        CHECK.sentence(14, "the last one can be undone (PHRASES are those of what is then)");
+        BagPhrases x = Check.house("waA1waA2wbB3+a+a^A^B.A.B:AA:AB:BA");
+        phrases(x, "at first", 4, 4, 2);
+        x.put(1);
+        CHECK.same("many(0) behind put", 12, x.many(0));
+        CHECK.same("many(2) behind put", 0, x.many(2));
+        CHECK.same("about(8) behind put", 3, x.about(8));
+        x.undo();
+        phrases(x, "behind undo of put", 4, 4, 2);
+        x.take(0);
+        CHECK.same("many(0) behind take", 2, x.many(0));
+        x.put(1);
+        phrases(x, "behind take and put", 4, 5, 1);
+        x.undo();
+        x.undo();
+        phrases(x, "behind undo of both", 4, 4, 2);
+        x.bar(1);
+        phrases(x, "behind bar", 1, 2, 1);
+        x.undo();
+        phrases(x, "behind undo of bar", 4, 4, 2);
+        x.rank(0, 9);
+        phrases(x, "behind rank", 4, 18, 2);
+        x.undo();
+        phrases(x, "behind undo of rank", 4, 4, 2);
+        for (int what = 0; what <= 2; what++) {
+            x.allow(what, 0, 0);
+            phrases(x, "behind allow(" + what + ", 0, 0)", 0, -9, 0);
+            x.undo();
+            phrases(x, "behind undo of it", 4, 4, 2);
+        }
+    }
+
     // ---- promise 32
 
     private static void keepBounds() {
@@ -587,6 +632,20 @@ public final class BoundsOfDoingsTest {
         x.bar(0);
         CHECK.same("undo()", 0, x.undo());
         CHECK.same("undo()", LATE, x.undo());
+    }
+
+    private static void phrasesAsKept() {
+        CHECK.sentence(33, "They are as they were kept (PHRASES, too)");
+        BagPhrases x = Check.house("waA1waA2wbB3+a+a^A^B.A.B:AA:AB:BA");
+        x.keep(0);
+        x.take(0);
+        x.put(1);
+        phrases(x, "a b", 4, 5, 1);
+        x.keep(1);
+        x.again(0);
+        phrases(x, "behind again(0)", 4, 4, 2);
+        x.again(1);
+        phrases(x, "behind again(1)", 4, 5, 1);
     }
 
     private static void againLeavesTheRest() {

@@ -30,6 +30,7 @@ public final class BoundsOfHouseTest {
         notAtItsEnd();
         longestHouse();
         faultIsOnlyAsked();
+        faultAskedTwice();
         howManyWords();
         noneBarredThen();
         noDoingsThen();
@@ -37,13 +38,16 @@ public final class BoundsOfHouseTest {
         keptIsGone();
         seenAndSeedStay();
         houseIsAllNew();
+        phrasesOfTheHouse();
         houseOfAFault();
         aboutBounds();
         aboutEmpty();
         aboutFull();
         asOftenInTheBag();
         inPhrases();
+        inNoPhraseThoughItFits();
         fewestAndMost();
+        mostAskedFirst();
         wordBounds();
         wordUnknownFirst();
         wordLeast();
@@ -424,6 +428,28 @@ public final class BoundsOfHouseTest {
         CHECK.same("about(12)", 16, x.about(12));
     }
 
+    private static void faultAskedTwice() {
+        CHECK.sentence(4, "FAULT: .. whatever was asked ahead of it");
+        String[] texts = {"w", "wa", "waA", "+", "^", ".", ":", ":A"};
+        for (String text : texts) {
+            BagPhrases x = new BagPhrases();
+            Check.write(x, text);
+            CHECK.same("fault() of " + text, text.length(), x.fault());
+            CHECK.same("fault() of " + text + ", once more", text.length(), x.fault());
+            CHECK.same("house()", LATE, x.house());
+            Check.write(x, "+a^A");
+            CHECK.same("fault() of another one", NONE, x.fault());
+            CHECK.same("house()", 0, x.house());
+            CHECK.same("about(1)", 1, x.about(1));
+        }
+        BagPhrases x = new BagPhrases();
+        int[] due = {1, 2, 3, NONE};
+        for (int i = 0; i < 4; i++) {
+            x.write("waA0".charAt(i));
+            CHECK.same("fault(), letter by letter", due[i], x.fault());
+        }
+    }
+
     // ---- promise 5
 
     private static void howManyWords() {
@@ -528,6 +554,25 @@ public final class BoundsOfHouseTest {
         CHECK.same("word(0, 0)", UNKNOWN, x.word(0, 0));
     }
 
+    private static void phrasesOfTheHouse() {
+        CHECK.sentence(5, "THE TEXT is THE HOUSE (PHRASES are its own)");
+        BagPhrases x = Check.house(Houses.tenTwins(2));
+        CHECK.same("many(0)", 100, x.many(0));
+        CHECK.same("many(2)", 100, x.many(2));
+        CHECK.same("best(0)", 18, x.best(0));
+        Check.write(x, Houses.twins(3, 1));
+        CHECK.same("house()", 3, x.house());
+        CHECK.same("many(0)", 3, x.many(0));
+        CHECK.same("many(2)", 0, x.many(2));
+        CHECK.same("best(0)", 2, x.best(0));
+        CHECK.same("share(0, true)", 1, x.share(0, true));
+        CHECK.same("hope(5, false)", 8, x.hope(5, false));
+        Check.write(x, Houses.twins(2, 2));
+        CHECK.same("house()", 2, x.house());
+        CHECK.same("share(0, true)", 2, x.share(0, true));
+        CHECK.same("hope(5, false)", 4, x.hope(5, false));
+    }
+
     private static void houseOfAFault() {
         CHECK.sentence(5, "LATE: a FAULT");
         String[] faults = {"w", "wa", "waA", "+", "^", ".", ":", ":A", "?", "waA0wbB0?", "wbB0+b^B^B", "wbB0+"};
@@ -599,7 +644,7 @@ public final class BoundsOfHouseTest {
         CHECK.same("about(10)", 14, x.about(10));
         CHECK.same("about(11)", 6, x.about(11));
         CHECK.same("about(13)", 12, x.about(13));
-        while (x.about(12) < 180) {
+        for (int size = x.about(12); size < 180; size++) {
             x.write('+');
         }
         x.write('+');
@@ -634,6 +679,30 @@ public final class BoundsOfHouseTest {
         x.take(0);
         CHECK.same("about(7) of an empty bag", 0, x.about(7));
         CHECK.same("about(6) of an empty bag", 0, x.about(6));
+    }
+
+    private static void inNoPhraseThoughItFits() {
+        CHECK.sentence(6, "which are in PHRASES (7: bits): not those that only fit and are let");
+        BagPhrases x = Check.house("waaA0waA0wbA0waaaA0+a+a+a+a+b" + Houses.ALL_LET);
+        x.bar(1);
+        CHECK.same("about(6)", 15, x.about(6));
+        CHECK.same("about(7): aaa leaves a", 1 | 4, x.about(7));
+        x.bar(2);
+        CHECK.same("about(7): b is left", 0, x.about(7));
+        x = Check.house("waA0wbB0wbC0+a+b^A.B:AB:AC");
+        CHECK.same("about(7): 2 may follow, not end", 1 | 2, x.about(7));
+    }
+
+    private static void mostAskedFirst() {
+        CHECK.sentence(6, "the most (9; NONE)");
+        BagPhrases x = Check.house("waA0waaA0+a+a+a^A.A:AA");
+        CHECK.same("about(9), asked first", 3, x.about(9));
+        x.put(0);
+        CHECK.same("about(9) behind put", 4, x.about(9));
+        x.bar(0);
+        CHECK.same("about(9) behind bar", 2, x.about(9));
+        x.put(0);
+        CHECK.same("about(9) of none", NONE, x.about(9));
     }
 
     private static void fewestAndMost() {

@@ -18,6 +18,7 @@ public final class BoundsOfPhrasesTest {
         lastMayEnd();
         eachMayFollow();
         mostPhrases();
+        mostLeftovers();
         havingBounds();
         havingAtLeastOnce();
         bestBounds();
@@ -29,6 +30,7 @@ public final class BoundsOfPhrasesTest {
         phraseKBounds();
         phraseUnknownFirst();
         phraseOfVeryMany();
+        phraseByKinds();
         tellBounds();
         rowFull();
         tellUnknownFirst();
@@ -185,6 +187,29 @@ public final class BoundsOfPhrasesTest {
         CHECK.same("many(1)", 0, x.many(1));
     }
 
+    private static void mostLeftovers() {
+        CHECK.sentence(15, "THE BAG holds LETTERS (12 at most, any of them more than once): four twice, four once");
+        BagPhrases x = Check.house("waA0wbA1wcA2wdA3weA4wfA5wgA6whA7+a+b+c+d+e+f+g+h+a+b+c+d^A.A:AA");
+        long many = 29937600L;
+        CHECK.same("many(0): 12! / 2^4", many, x.many(0));
+        CHECK.same("many(12)", many, x.many(12));
+        CHECK.same("many(11)", 0, x.many(11));
+        CHECK.same("having(7)", many, x.having(7));
+        CHECK.same("best(0)", 34, x.best(0));
+        CHECK.same("about(7)", 255, x.about(7));
+        int[] first = {0, 0, 1, 1, 2, 2, 3, 3, 4, 5, 6, 7};
+        for (int k = 1; k <= 12; k++) {
+            CHECK.same("best(" + (k + 1) + ")", first[k - 1], x.best(k + 1));
+            CHECK.same("phrase(0, " + k + ")", first[k - 1], x.phrase(0, k));
+            CHECK.same("phrase(the last, " + k + ")", first[12 - k], x.phrase(many - 1, k));
+        }
+        Check.tell(x, 7, 6, 5, 4, 3, 3, 2, 2, 1, 1, 0, 0);
+        CHECK.same("number() of the last", many - 1, x.number());
+        CHECK.same("phrase(many, 0)", UNKNOWN, x.phrase(many, 0));
+        CHECK.same("share(0, true)", many / 8, x.share(0, true));
+        CHECK.same("hope(5, false)", 256, x.hope(5, false));
+    }
+
     // ---- promise 16
 
     private static void havingBounds() {
@@ -338,6 +363,32 @@ public final class BoundsOfPhrasesTest {
         for (int k = 1; k <= 12; k++) {
             CHECK.same("phrase(123456789012, " + k + ")", k % 10, x.phrase(123456789012L, k));
         }
+    }
+
+    private static void phraseByKinds() {
+        CHECK.sentence(18, "PHRASES are in order (of those that are let alone)");
+        // a b a b, by turns: 0 or 2 for a, 1 or 3 for b; 3 is of a kind that only 2 may stand ahead of
+        BagPhrases x = Check.house("waA1wbB2waC3wbD4+a+a+b+b^A^C.B.D:AB:BA:BC:CD:DA:DC");
+        int[][] rows = {{0, 1, 0, 1}, {0, 1, 2, 3}, {2, 3, 0, 1}, {2, 3, 2, 3}};
+        int[] worths = {6, 10, 10, 14};
+        CHECK.same("many(0)", rows.length, x.many(0));
+        for (int number = 0; number < rows.length; number++) {
+            for (int k = 1; k <= 4; k++) {
+                CHECK.same("phrase(" + number + ", " + k + ")", rows[number][k - 1], x.phrase(number, k));
+            }
+            CHECK.same("phrase(" + number + ", 13)", worths[number], x.phrase(number, 13));
+            Check.tell(x, rows[number]);
+            CHECK.same("number()", number, x.number());
+        }
+        CHECK.same("best(0)", 14, x.best(0));
+        x.rank(0, 9);
+        CHECK.same("best(0): 9 2 9 2", 22, x.best(0));
+        for (int k = 1; k <= 4; k++) {
+            CHECK.same("best(" + (k + 1) + ")", rows[0][k - 1], x.best(k + 1));
+        }
+        x.rank(3, 9);
+        CHECK.same("best(0): 3 9 3 9", 24, x.best(0));
+        CHECK.same("best(2)", 2, x.best(2));
     }
 
     // ---- promise 19

@@ -11,6 +11,7 @@ public final class BoundsOfRowsTest {
         why2NotLet();
         why3Wanting();
         why3AsItIsSpelt();
+        why3OfTheTenth();
         why3HowMany();
         why4Left();
         why5NotEnd();
@@ -22,6 +23,7 @@ public final class BoundsOfRowsTest {
         numberNone();
         numberBounds();
         numberFindsPhrase();
+        numberByKinds();
         noneBeginsAsAnother();
         nearlyBounds();
         wantingAThirteenth();
@@ -29,6 +31,8 @@ public final class BoundsOfRowsTest {
         wantingOfAnEmptyBag();
         tooManyOfTheBag();
         tooManyTheLast();
+        wouldBePhrases();
+        wouldFollow();
         whetherThereAreNow();
         nearlyIsOnlyAsked();
         judgeNBounds();
@@ -145,6 +149,18 @@ public final class BoundsOfRowsTest {
         why(x, 3, 0, 6, 1);
         Check.tell(x, 0);
         why(x, 3, 0, 6, 1);
+    }
+
+    private static void why3OfTheTenth() {
+        CHECK.sentence(21, "(the first such LETTER as it is spelt ..) of the last of ten WORDS");
+        BagPhrases x = Check.house("waA0".repeat(9) + "whgfedcA0+c+d^A.A:AA");
+        Check.tell(x, 9);
+        int[] spelt = {7, 6, 5, 4};
+        for (int letter : spelt) {
+            why(x, 3, 0, letter, 1);
+            x.put(letter);
+        }
+        why(x, 0, NONE, NONE, 0);
     }
 
     private static void why3HowMany() {
@@ -324,6 +340,20 @@ public final class BoundsOfRowsTest {
         }
     }
 
+    private static void numberByKinds() {
+        CHECK.sentence(22, "how many are ahead of it (rows that are not LET are none)");
+        // 0 2 and 1 3: by its letters and its own beginning 2 could stand where 3 does, but not behind 1
+        BagPhrases x = Check.house("waA0waB0wbC0wbD0+a+b^A^B^C^D.C.D:AC:BD");
+        CHECK.same("many(0)", 2, x.many(0));
+        Check.tell(x, 0, 2);
+        CHECK.same("number()", 0, x.number());
+        Check.tell(x, 1, 3);
+        CHECK.same("number()", 1, x.number());
+        CHECK.same("phrase(1, 2)", 3, x.phrase(1, 2));
+        Check.tell(x, 1, 2);
+        CHECK.same("number()", NONE, x.number());
+    }
+
     private static void noneBeginsAsAnother() {
         CHECK.sentence(22, "(None begins as another whole one does.)");
         BagPhrases x = Check.house("waA0waaA0+a+a+a^A.A:AA");
@@ -407,11 +437,60 @@ public final class BoundsOfRowsTest {
         CHECK.sentence(23, "(An empty BAG has none: the last LETTER is never TOO MANY)");
         BagPhrases x = Check.house("waA0+a^A.A:AA");
         CHECK.same("nearly(1) of one letter", 0, x.nearly(1));
+        CHECK.same("many(0)", 1, x.many(0));
+        CHECK.same("nearly(1) of one letter, when it was counted", 0, x.nearly(1));
+        CHECK.same("nearly(0)", 1, x.nearly(0));
+        CHECK.same("nearly(1) of one letter, when more were asked for", 0, x.nearly(1));
         x.take(0);
         x.put(1);
         CHECK.same("nearly(1) of one letter that no word has", 0, x.nearly(1));
         x.put(0);
         CHECK.same("nearly(1) of two", 2, x.nearly(1));
+    }
+
+    private static void wouldBePhrases() {
+        CHECK.sentence(23, "WANTING, TOO MANY: .. there were PHRASES (let by kinds, and not BARRED)");
+        // with b there were a b, with c less a b c would be a b
+        BagPhrases x = Check.house("waA0wbB0+a^A.B:AB");
+        CHECK.same("nearly(0)", 2, x.nearly(0));
+        int[][] turned = {{0, 0, 0}, {1, 1, 0}, {2, 0, 1}};
+        for (int[] one : turned) {
+            x.allow(one[0], one[1], one[2]);
+            CHECK.same("nearly(0), it is not let", 0, x.nearly(0));
+            x.undo();
+        }
+        x.allow(0, 1, 0);
+        x.allow(0, 0, 0);
+        x.allow(2, 1, 1);
+        CHECK.same("nearly(0), a may not begin, nor follow", 0, x.nearly(0));
+        x = Check.house("waA0wbB0+a+b+c^A.B:AB");
+        CHECK.same("nearly(1)", 4, x.nearly(1));
+        for (int[] one : turned) {
+            x.allow(one[0], one[1], one[2]);
+            CHECK.same("nearly(1), it is not let", 0, x.nearly(1));
+            x.undo();
+        }
+        x.bar(0);
+        CHECK.same("nearly(1), barred", 0, x.nearly(1));
+        // of four words: C may not follow B, though it may follow A
+        x = Check.house("waA0wbB0wcC0wdD0+a+b+c^A.D:AB:AC:CD");
+        CHECK.same("nearly(0), C not behind B", 0, x.nearly(0));
+        x.allow(2, 1, 2);
+        CHECK.same("nearly(0), C behind B", 8, x.nearly(0));
+    }
+
+    private static void wouldFollow() {
+        CHECK.sentence(23, "WANTING: .. there were PHRASES (each KIND may FOLLOW, or may not)");
+        for (int kind = 0; kind <= 3; kind++) {
+            for (int next = 0; next <= 3; next++) {
+                char one = (char) ('A' + kind);
+                char other = (char) ('A' + next);
+                BagPhrases x = Check.house("wa" + one + "0wb" + other + "0+a^" + one + "." + other + ":" + one + other);
+                CHECK.same("nearly(0), " + other + " behind " + one, kind == next ? 3 : 2, x.nearly(0));
+                x.allow(2, kind, next);
+                CHECK.same("nearly(0), not " + other + " behind " + one, 0, x.nearly(0));
+            }
+        }
     }
 
     private static void whetherThereAreNow() {
@@ -629,7 +708,8 @@ public final class BoundsOfRowsTest {
         for (int i = 0; i < 13; i++) {
             x.bar(1);
         }
-        long[] rows = {1100310060106210L, 2000310060101800L, 3000300030009999L, 2000200020002000L};
+        long[] rows = {1100310060106210L, 2000310060101800L, 3000300030009999L, 2000200020002000L,
+            1000310060104000L, 1000600040017012L, 2000400040007000L, 3000500040004000L};
         for (long row : rows) {
             x.judge(4, row);
             CHECK.same("about(1)", 1, x.about(1));

@@ -79,7 +79,7 @@ public final class NothingChangesTest {
         for (int i = 0; i < 6; i++) {
             x.see(i / 2, 2 + i, 0);
         }
-        while (x.about(12) < 180) {
+        for (int size = x.about(12); size < 180; size++) {
             x.write('w');
         }
         x.seed(-3);
