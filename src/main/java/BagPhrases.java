@@ -1463,8 +1463,8 @@ public final class BagPhrases {
             return (opened[set / BLOCK] >> set % BLOCK & 1L) != 0;
         }
 
+        /** To be asked only when it is known which sets are opened. */
         private void countSets() {
-            openSets();
             if (countsKnown) {
                 return;
             }
@@ -1487,6 +1487,7 @@ public final class BagPhrases {
 
         /** How many phrases more there are when the word has come, of all orders together. */
         long shareOf(int word) {
+            openSets();
             countSets();
             int bit = 0;
             for (int i = 0; i < comingSize; i++) {

@@ -1,18 +1,30 @@
 import com.sun.source.tree.AnnotationTree;
+import com.sun.source.tree.ArrayAccessTree;
 import com.sun.source.tree.AssertTree;
+import com.sun.source.tree.AssignmentTree;
+import com.sun.source.tree.BinaryTree;
 import com.sun.source.tree.CatchTree;
 import com.sun.source.tree.ClassTree;
 import com.sun.source.tree.CompilationUnitTree;
+import com.sun.source.tree.CompoundAssignmentTree;
+import com.sun.source.tree.DoWhileLoopTree;
+import com.sun.source.tree.ExpressionTree;
+import com.sun.source.tree.ForLoopTree;
 import com.sun.source.tree.IdentifierTree;
 import com.sun.source.tree.LambdaExpressionTree;
+import com.sun.source.tree.LiteralTree;
 import com.sun.source.tree.MemberReferenceTree;
 import com.sun.source.tree.MethodInvocationTree;
 import com.sun.source.tree.MethodTree;
+import com.sun.source.tree.NewArrayTree;
 import com.sun.source.tree.NewClassTree;
+import com.sun.source.tree.ParenthesizedTree;
 import com.sun.source.tree.SynchronizedTree;
 import com.sun.source.tree.ThrowTree;
 import com.sun.source.tree.TryTree;
+import com.sun.source.tree.UnaryTree;
 import com.sun.source.tree.VariableTree;
+import com.sun.source.tree.WhileLoopTree;
 import com.sun.source.util.JavacTask;
 import com.sun.source.util.SourcePositions;
 import com.sun.source.util.TreePath;
@@ -32,6 +44,7 @@ import java.util.Map;
 import java.util.Set;
 import java.util.TreeSet;
 import javax.lang.model.element.Element;
+import javax.lang.model.element.ElementKind;
 import javax.lang.model.element.ExecutableElement;
 import javax.lang.model.element.TypeElement;
 import javax.tools.JavaCompiler;
@@ -45,6 +58,11 @@ public final class LanguageTest {
 
     private static final Set<String> LIBRARY = Set.of("java.lang.System.arraycopy", "java.lang.Math.max",
         "java.lang.Math.min", "java.lang.Math.abs", "java.lang.Integer.bitCount", "java.lang.Object.<init>");
+
+    /** Of the types of rule 3 those that the program uses; a class of its own is one, too. */
+    private static final Set<String> TYPES = Set.of("int", "long", "boolean", "int[]", "long[]", "boolean[]");
+    private static final Set<String> STATIC_TYPES = Set.of("int", "long", "boolean", "char", "java.lang.String");
+    private static final Set<String> STATIC_ROWS = Set.of("int[]", "long[]", "char[]", "byte[]");
 
     private static final String[] FACE = {
         "int write(int)", "int wipe()", "int fault()", "int house()", "int about(int)", "int word(int,int)",
@@ -98,8 +116,8 @@ public final class LanguageTest {
                 files.getJavaFileObjects(SOURCE));
             CompilationUnitTree unit = task.parse().iterator().next();
             task.analyze();
-            CHECK.part("rule 4");
-            CHECK.holds("no package, no imports", unit.getPackageName() == null && unit.getImports().isEmpty());
+            CHECK.part("the text");
+            CHECK.holds("rule 4: no package, no imports", unit.getPackageName() == null && unit.getImports().isEmpty());
             Rules rules = new Rules(Trees.instance(task), unit);
             rules.scan(unit, null);
             rules.end();
@@ -187,11 +205,82 @@ public final class LanguageTest {
 
         @Override
         public Void visitVariable(VariableTree tree, Void none) {
+            String type = trees.getTypeMirror(getCurrentPath()).toString();
+            CHECK.holds("rule 3: the type of " + tree.getName() + ", " + type,
+                TYPES.contains(type) || type.startsWith("BagPhrases.") && !type.endsWith("[][]"));
             Set<javax.lang.model.element.Modifier> flags = tree.getModifiers().getFlags();
-            CHECK.holds("rule 5: a static field is final: " + tree.getName(),
-                !flags.contains(javax.lang.model.element.Modifier.STATIC)
-                    || flags.contains(javax.lang.model.element.Modifier.FINAL));
+            if (flags.contains(javax.lang.model.element.Modifier.STATIC)) {
+                CHECK.holds("rule 5: a static field is final: " + tree.getName(),
+                    flags.contains(javax.lang.model.element.Modifier.FINAL));
+                CHECK.holds("rule 5: a static field is a constant, or a row that is written out: " + tree.getName(),
+                    STATIC_TYPES.contains(type) || STATIC_ROWS.contains(type) && tree.getInitializer() instanceof NewArrayTree row
+                        && row.getInitializers() != null);
+            }
             return super.visitVariable(tree, none);
+        }
+
+        @Override
+        public Void visitAssignment(AssignmentTree tree, Void none) {
+            changed(tree.getVariable());
+            return super.visitAssignment(tree, none);
+        }
+
+        @Override
+        public Void visitCompoundAssignment(CompoundAssignmentTree tree, Void none) {
+            changed(tree.getVariable());
+            return super.visitCompoundAssignment(tree, none);
+        }
+
+        @Override
+        public Void visitUnary(UnaryTree tree, Void none) {
+            String kind = tree.getKind().toString();
+            if (kind.contains("INCREMENT") || kind.contains("DECREMENT")) {
+                changed(tree.getExpression());
+            }
+            return super.visitUnary(tree, none);
+        }
+
+        private void changed(ExpressionTree variable) {
+            if (variable instanceof ArrayAccessTree element) {
+                Element row = trees.getElement(new TreePath(getCurrentPath(), element.getExpression()));
+                CHECK.holds("rule 5: a static row is never changed: " + element,
+                    row == null || !row.getModifiers().contains(javax.lang.model.element.Modifier.STATIC));
+            }
+        }
+
+        @Override
+        public Void visitBinary(BinaryTree tree, Void none) {
+            CHECK.holds("rule 10: texts are not joined by +: " + tree,
+                !trees.getTypeMirror(getCurrentPath()).toString().equals("java.lang.String"));
+            return super.visitBinary(tree, none);
+        }
+
+        @Override
+        public Void visitWhileLoop(WhileLoopTree tree, Void none) {
+            ending(tree.getCondition(), tree);
+            return super.visitWhileLoop(tree, none);
+        }
+
+        @Override
+        public Void visitDoWhileLoop(DoWhileLoopTree tree, Void none) {
+            ending(tree.getCondition(), tree);
+            return super.visitDoWhileLoop(tree, none);
+        }
+
+        @Override
+        public Void visitForLoop(ForLoopTree tree, Void none) {
+            ending(tree.getCondition(), tree);
+            return super.visitForLoop(tree, none);
+        }
+
+        private void ending(ExpressionTree condition, com.sun.source.tree.Tree loop) {
+            ExpressionTree inside = condition instanceof ParenthesizedTree brackets ? brackets.getExpression() : condition;
+            if (inside == null || inside instanceof LiteralTree) {
+                refuse("rule 9: a loop without an end", loop);
+                return;
+            }
+            boolean bounded = inside.toString().matches(".*(<|>|<=|>=).*");
+            CHECK.holds("rule 9: a counter against a bound: " + inside, bounded);
         }
 
         @Override
@@ -231,11 +320,13 @@ public final class LanguageTest {
 
         private void called(Element target, com.sun.source.tree.Tree tree) {
             String owner = ((TypeElement) target.getEnclosingElement()).getQualifiedName().toString();
-            if (owner.startsWith("BagPhrases")) {
-                if (method != null) {
-                    calls.get(method).add(target);
-                }
-            } else if (!LIBRARY.contains(owner + "." + target.getSimpleName())) {
+            // A library call is one more call that stands open, so it is counted among them.
+            if (method != null) {
+                calls.get(method).add(target);
+            }
+            CHECK.holds("rule 12: a constructor calls no method: " + tree, method == null
+                || method.getKind() != ElementKind.CONSTRUCTOR || target.getKind() == ElementKind.CONSTRUCTOR);
+            if (!owner.startsWith("BagPhrases") && !LIBRARY.contains(owner + "." + target.getSimpleName())) {
                 refuse("rule 4: " + owner + "." + target.getSimpleName(), tree);
             }
         }
